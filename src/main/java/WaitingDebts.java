@@ -819,6 +819,7 @@ public final class WaitingDebts {
             }
             if (ower == creditor || town.debt[cell(ower, creditor)] != 0) {
                 fail(TOLD_ALREADY);
+                return;
             }
             expect(Tokens.NAME);
             town.debt[cell(ower, creditor)] = expectNumber(1, MOST_OWED);
@@ -895,9 +896,9 @@ public final class WaitingDebts {
         }
 
         private void readUnit(Formula into, int within) {
-            boolean isGiven = tokens.kind >= Tokens.OWED && tokens.kind < Tokens.OWED + Formula.GIVENS;
-            boolean isOne = isGiven || isAt(Tokens.NUMBER) || isAt('(') && within <= MAX_WITHIN;
-            if (!isOne || unitsOfFormula >= Formula.MAX_UNITS || town.units >= MAX_UNITS) {
+            boolean isGiven = isGood() && tokens.kind >= Tokens.OWED && tokens.kind < Tokens.OWED + Formula.GIVENS;
+            boolean isUnit = isGiven || isAt(Tokens.NUMBER) || isAt('(') && within <= MAX_WITHIN;
+            if (!isUnit || unitsOfFormula >= Formula.MAX_UNITS || town.units >= MAX_UNITS) {
                 fail(OUT_OF_PLACE);
                 return;
             }
@@ -1211,6 +1212,7 @@ public final class WaitingDebts {
 
         private final Clockwork clock = new Clockwork();
         private final State trial = new State();
+        private final State start = new State();
         private final int[] rolls = new int[MOST_HOURS_A_CALL];
         /** What the latest search found, and by which HOUR, PERSON or number. */
         int found;
@@ -1316,11 +1318,12 @@ public final class WaitingDebts {
             Formula law = town.law;
             int ways = 0;
             keepRolls(town, now, n);
+            keepStart(town, now, debt);
             for (int number = 0; number < law.numbers; number++) {
                 int told = law.numberTold(number);
                 for (int word = 0; word <= LAST_WORD; word++) {
                     law.tellOtherwise(number, word);
-                    if (word != told && isFreed(town, now, debt, n)) {
+                    if (word != told && isFreed(town, debt, n)) {
                         if (ways == 0) {
                             found = number;
                             foundBy = word;
@@ -1342,8 +1345,27 @@ public final class WaitingDebts {
             }
         }
 
-        private boolean isFreed(Town town, State now, int debt, int n) {
-            trial.copy(now);
+        /** Other debts have a say in this one by coins alone; where they have none, they are left out. */
+        private void keepStart(Town town, State now, int debt) {
+            start.copy(now);
+            if (!hangsOnCoins(town, now, debt)) {
+                Arrays.fill(start.debt, 0);
+                start.debt[debt] = now.debt[debt];
+            }
+        }
+
+        private boolean hangsOnCoins(Town town, State now, int debt) {
+            for (int person = 0; person < town.people; person++) {
+                boolean isPaid = now.stand[person] != person && town.price[person] > 0;
+                if (isPaid && now.aim[person] != NONE && cell(now.stand[person], now.aim[person]) == debt) {
+                    return true;
+                }
+            }
+            return false;
+        }
+
+        private boolean isFreed(Town town, int debt, int n) {
+            trial.copy(start);
             for (int i = 0; i < n && trial.debt[debt] > 0; i++) {
                 if (rolls[i] != 0) {
                     clock.settle(town, trial, rolls[i]);

@@ -132,6 +132,11 @@ public final class ModelTest {
         int what = what();
         int n = hoursAhead(200);
         int few = hoursAhead(60);
+        // Those for whom somebody is on his way have more to tell.
+        if (m.is(p) && m.now.aim[p] != -1 && chance.nextInt(3) > 0) {
+            o = m.now.aim[p];
+            p = m.now.stand[p];
+        }
         String with = "(" + p + ", " + o + ", n " + n + ", few " + few + ", what " + what + ")";
         switch (chance.nextInt(12)) {
             case 0: case 1: due("will" + with, x.will(p, o, n), m.will(p, o, n)); break;
@@ -141,7 +146,7 @@ public final class ModelTest {
             case 6: due("help" + with, x.help(p, o, what), m.help(p, o, what)); break;
             case 7: if (chance.nextInt(8) == 0) { due("plan" + with, x.plan(p), m.plan(p)); lies(); } break;
             case 8: due("hide" + with, x.hide(p, few, what), m.hide(p, few, what)); break;
-            case 9: if (chance.nextInt(8) == 0) { due("word" + with, x.word(p, o, few), m.word(p, o, few)); lies(); } break;
+            case 9: if (chance.nextInt(3) == 0) { due("word" + with, x.word(p, o, few), m.word(p, o, few)); lies(); } break;
             case 10: due("rings", x.rings(), m.rings()); break;
             default: due("ring", x.ring(), m.ring()); lies(); break;
         }

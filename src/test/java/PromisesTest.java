@@ -32,6 +32,7 @@ public final class PromisesTest {
         test.rings();
         test.hide();
         test.word();
+        test.wordByClockAndCoins();
         test.lies();
         test.steps();
         test.later();
@@ -488,6 +489,10 @@ public final class PromisesTest {
         WaitingDebts z = Check.made("day 2;person a at 0 open 1 to 2;person b at 0 open 1 to 2;debt a to b 201;law 2;");
         z.aim(0, 1);
         due("19: beyond 200", z.when(0, 1), -1);
+        WaitingDebts w = Check.made("day 2;person a at 0 open 0 to 1;person b at 0 open 0 to 1;debt a to b 202;law 2;");
+        w.aim(0, 1);
+        due("19: at 201", w.when(0, 1), -1);
+        due("22: at 201", w.help(0, 1, 0), -1);
     }
 
     private void throng() {
@@ -594,6 +599,8 @@ public final class PromisesTest {
         WaitingDebts w = Check.made("day 2;person a at 0 open 1 to 2;person b at 0 open 1 to 2;debt a to b 301;debt b to a 2;law 2;");
         w.ring();
         due("23: beyond 300", w.plan(0), -1);
+        WaitingDebts v = Check.made("day 2;person a at 0 open 0 to 1;person b at 0 open 0 to 1;debt a to b 302;law 2;");
+        due("23: at 301", v.plan(0), -1);
         due("23: nothing lies there", w.about(12), 0);
     }
 
@@ -678,6 +685,32 @@ public final class PromisesTest {
         WaitingDebts w = Check.made("person a at 0 open 0 to 9;person b at 0 open 0 to 9;debt a to b 3;rain 7;");
         w.aim(0, 1);
         due("27: no law, no number", w.word(0, 1, 1), 0);
+    }
+
+    private void wordByClockAndCoins() {
+        String two = "day 2;person a at 0 open 0 to 2;person b at 0 open 0 to 2;";
+        WaitingDebts x = Check.made(two + "debt a to b 30;law hour*5;");
+        x.aim(0, 1);
+        due("27: in the HOUR that counts", x.word(0, 1, 1), 0);
+        due("27: in the HOUR that counts", x.word(0, 1, 2), 70);
+        due("27: the first", x.lies(1), 30);
+        due("27: twice", x.word(0, 1, 4), 85);
+        WaitingDebts y = Check.made(two + "debt a to b 30;law 5;interest 10;");
+        y.aim(0, 1);
+        due("27: interest ahead of it", y.word(0, 1, 2), 85);
+        due("27: interest comes too", y.word(0, 1, 3), 86);
+        due("27: the first", y.lies(1), 14);
+        // d waits for a at b's DOOR for a price; a earns the coin for it by waiting for c at b's DOOR first.
+        String four = "day 4;person a at 0 open 0 to 4 price 3;person b at 0 open 0 to 4;person c at 0 open 0 to 4 coin 3;person d at 0 open 0 to 4 price 3;";
+        WaitingDebts z = Check.made(four + "debt a to b 20;debt c to b 9;law 10;");
+        z.aim(3, 1);
+        z.stand(3, 0);
+        due("27: no coin", z.word(0, 1, 4), 0);
+        z.aim(0, 1);
+        z.stand(0, 2);
+        due("27: coin of another debt", z.word(0, 1, 1), 80);
+        due("27: the first", z.lies(1), 20);
+        due("27: coin but once", z.word(0, 1, 4), 80);
     }
 
     private void lies() {
