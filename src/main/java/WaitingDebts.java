@@ -392,6 +392,8 @@ public final class WaitingDebts {
         static final int MET = 5;
         static final int PROXY = 6;
         static final int GIVENS = 7;
+        // An operation's code is its TOKEN's kind; what is given has one code, and which it is stands as its operand.
+        private static final int GIVEN = Tokens.OWED;
         // Units, the operations between them, and up to 7 times "not" ahead of each unit.
         private static final int MAX_LENGTH = 2 * MAX_UNITS + 7 * MAX_UNITS;
 
@@ -432,7 +434,7 @@ public final class WaitingDebts {
             if (which >= 0 && which < GIVENS && length < MAX_LENGTH) {
                 asksWet |= which == WET;
                 operand[length] = which;
-                addOperation(Tokens.OWED);
+                addOperation(GIVEN);
             }
         }
 
@@ -448,7 +450,7 @@ public final class WaitingDebts {
             int top = 0;
             for (int i = 0; i < length; i++) {
                 int sign = operation[i];
-                if (sign == Tokens.NUMBER || sign == Tokens.OWED) {
+                if (sign == Tokens.NUMBER || sign == GIVEN) {
                     top++;
                 } else if (sign != Tokens.NOT) {
                     top--;
@@ -460,7 +462,7 @@ public final class WaitingDebts {
                 int right = stack[top + 1];
                 switch (sign) {
                     case Tokens.NUMBER: stack[top] = operand[i]; break;
-                    case Tokens.OWED: stack[top] = given[operand[i]]; break;
+                    case GIVEN: stack[top] = given[operand[i]]; break;
                     case Tokens.NOT: stack[top] = left == 0 ? 1 : 0; break;
                     case Tokens.AND: stack[top] = left != 0 && right != 0 ? 1 : 0; break;
                     case Tokens.OR: stack[top] = left != 0 || right != 0 ? 1 : 0; break;
@@ -668,7 +670,15 @@ public final class WaitingDebts {
             town.forget();
             tokens.begin(text, length);
             for (int line = 0; line < MAX_BYTES && isGood() && tokens.kind != Tokens.END; line++) {
-                readLine(line == 0);
+                switch (tokens.kind) {
+                    case Tokens.DAY: readDay(line == 0); break;
+                    case Tokens.PERSON: readPerson(); break;
+                    case Tokens.DEBT: readDebt(); break;
+                    case Tokens.LAW: readFormula(town.law); break;
+                    case Tokens.INTEREST: readFormula(town.interest); break;
+                    case Tokens.RAIN: readFormula(town.rain); break;
+                    default: fail(OUT_OF_PLACE);
+                }
                 expect(';');
             }
             return isGood();
@@ -725,18 +735,6 @@ public final class WaitingDebts {
             }
             tokens.next();
             return expectNumber(0, most);
-        }
-
-        private void readLine(boolean isFirst) {
-            switch (tokens.kind) {
-                case Tokens.DAY: readDay(isFirst); break;
-                case Tokens.PERSON: readPerson(); break;
-                case Tokens.DEBT: readDebt(); break;
-                case Tokens.LAW: readFormula(town.law); break;
-                case Tokens.INTEREST: readFormula(town.interest); break;
-                case Tokens.RAIN: readFormula(town.rain); break;
-                default: fail(OUT_OF_PLACE);
-            }
         }
 
         private void readDay(boolean isFirst) {
