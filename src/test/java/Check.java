@@ -1,4 +1,5 @@
 import java.nio.charset.StandardCharsets;
+import java.util.function.Supplier;
 
 /** Counts answers that are not the ones that are due, and tells texts to a town. */
 final class Check {
@@ -58,6 +59,42 @@ final class Check {
             System.exit(1);
         }
         return x;
+    }
+
+    /** The text is a town of so many PEOPLE, without a FAULT. */
+    WaitingDebts good(String text, int people) {
+        WaitingDebts x = new WaitingDebts();
+        due("town of " + text, town(x, text), people);
+        due("fault(0) of " + text, x.fault(0), 0);
+        due("fault(1) of " + text, x.fault(1), -1);
+        return x;
+    }
+
+    /** The text has this FAULT first, at this place. */
+    void bad(String text, int fault, int place) {
+        WaitingDebts x = new WaitingDebts();
+        due("town of " + text, town(x, text), -1);
+        due("fault(0) of " + text, x.fault(0), fault);
+        due("fault(1) of " + text, x.fault(1), place);
+    }
+
+    interface Call {
+        int on(WaitingDebts x);
+    }
+
+    /** The call answers so, and whatever is called behind it answers as if it had not been made. */
+    void doesNothing(String what, Supplier<WaitingDebts> made, Call call, int want) {
+        WaitingDebts called = made.get();
+        due(what, call.on(called), want);
+        due(what + " shows as much", Shown.firstUnlike(Shown.of(called), Shown.of(made.get())), Shown.NOTHING_UNLIKE);
+    }
+
+    void due(String call, String got, String want) {
+        calls++;
+        if (!got.equals(want)) {
+            wrong++;
+            System.out.println(test + ": " + call + ": " + got + ", due is " + want);
+        }
     }
 
     private static int four(byte[] bytes, int at) {

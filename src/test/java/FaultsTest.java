@@ -19,17 +19,11 @@ public final class FaultsTest {
     }
 
     private void good(String text, int people) {
-        WaitingDebts x = new WaitingDebts();
-        check.due("town of " + text, Check.town(x, text), people);
-        check.due("fault(0) of " + text, x.fault(0), 0);
-        check.due("fault(1) of " + text, x.fault(1), -1);
+        check.good(text, people);
     }
 
     private void bad(String text, int fault, int place) {
-        WaitingDebts x = new WaitingDebts();
-        check.due("town of " + text, Check.town(x, text), -1);
-        check.due("fault(0) of " + text, x.fault(0), fault);
-        check.due("fault(1) of " + text, x.fault(1), place);
+        check.bad(text, fault, place);
     }
 
     private void tokens() {
