@@ -14,6 +14,7 @@ public final class ActEdgesTest {
         test.theOldestGo();
         test.fortyAreKeptOfEachSort();
         test.eachSortIsUndoneAndRedone();
+        test.coinsAreUndone();
         test.theLatestThatWasNot();
         test.tillAnotherAct();
         test.otherCallsAreNoActs();
@@ -182,6 +183,25 @@ public final class ActEdgesTest {
             }
         }
         return List.of(all.toString(), "clock " + x.about(2) + " " + x.about(3) + " " + x.about(4));
+    }
+
+    private void coinsAreUndone() {
+        WaitingDebts x = Check.made("person a at 3 open 0 to 9 coin 9;person b at 3 open 0 to 9;person c at 3 open 0 to 9 price 4;debt a to b 900;");
+        x.aim(2, 1);
+        x.stand(2, 0);
+        x.image(0);
+        x.hours(2);
+        due("coins", x.person(0, 3) * 10 + x.person(2, 3), 18);
+        x.image(1);
+        x.undo();
+        due("coins behind undo", x.person(0, 3) * 10 + x.person(2, 3), 90);
+        due("what is owed behind undo", x.owed(0, 1), 900);
+        x.redo();
+        due("coins behind redo", x.person(0, 3) * 10 + x.person(2, 3), 18);
+        x.back(0);
+        due("coins of a BOX", x.person(0, 3) * 10 + x.person(2, 3), 90);
+        x.back(1);
+        due("coins of another BOX", x.person(0, 3) * 10 + x.person(2, 3), 18);
     }
 
     // UNDO takes back the latest ACT that was not, REDO does that again which was taken back last

@@ -24,6 +24,7 @@ public final class AheadEdgesTest {
         test.wordsFrom0To99();
         test.wordsToldOtherwise();
         test.wordsBehindHours();
+        test.wordsByInterestAndCoins();
         test.check.end();
     }
 
@@ -340,6 +341,9 @@ public final class AheadEdgesTest {
         word("1+0*50", 50, 1, 50 + 99 + 0, "0 50");
         word("(1)+(2)", 100, 1, 2 + 1, "0 98");
         word("owed", 240, 1, 0, "");
+        word("seat*9+5", 50, 1, 50, "1 50");
+        word("seat*9+proxy*8+met*7+0*99", 50, 1, 99, "3 1");
+        word("1-1+1-1+(owed=7)", 1, 1, 98 + 1 + 98 + 1 + 1, "0 2");
         WaitingDebts x = Check.made(always(2, "") + "debt a to b 5;interest 7;rain 8;");
         x.aim(0, 1);
         due("no law, no number", x.word(0, 1, 1), 0);
@@ -360,10 +364,58 @@ public final class AheadEdgesTest {
         word("0", 61, 60, 98, "0 2");
         word("0", 120, 2, 40, "0 60");
         word("0", 120, 1, 0, "");
+        word("hour*5", 30, 1, 0, "");
+        word("hour*5", 30, 2, 70, "0 30");
+        word("hour*5", 30, 3, 90, "0 10");
+        word("date*5", 30, 24, 0, "");
+        word("date*5", 30, 25, 70, "0 30");
         WaitingDebts x = lawOf("1", 5);
         due("WORD in 0 HOURS", x.word(0, 1, 0), -1);
         due("WORD in -1 HOURS", x.word(0, 1, -1), -1);
         due("WORD in 61 HOURS", x.word(0, 1, 61), -1);
         check.due("nothing lies there", lying(x), "");
+    }
+
+    /** What each HOUR and DUSK does counts for each WORD as it does in earnest. */
+    private void wordsByInterestAndCoins() {
+        String two = "day 2;person a at 0 open 0 to 2;person b at 0 open 0 to 2;debt a to b 30;law 5;interest 10;";
+        WaitingDebts x = Check.made(two);
+        x.aim(0, 1);
+        due("ahead of interest", x.word(0, 1, 2), 85);
+        due("interest comes, too", x.word(0, 1, 3), 86);
+        check.due("the first", lying(x), "0 14");
+        WaitingDebts z = Check.made("day 4;person a at 3 open 0 to 4;person b at 3 open 2 to 3;debt a to b 30;law 0;");
+        z.aim(0, 1);
+        due("shut yet", z.word(0, 1, 2), 0);
+        due("open then", z.word(0, 1, 3), 70);
+        due("not again until the next DAY", z.word(0, 1, 6), 70);
+        due("open again", z.word(0, 1, 7), 85);
+        for (int price : new int[] {1, 3}) {
+            wordsByCoinsOfOthers(price);
+        }
+    }
+
+    private void wordsByCoinsOfOthers(int price) {
+        String head = " at 0 open 0 to 4";
+        String four = "day 4;person a" + head + " price " + price + ";person b" + head + ";person c" + head + " coin " + price + ";person d" + head + " price " + price + ";";
+        // d waits for a at b's DOOR for a price; a earns the coin for it by waiting for c there first.
+        WaitingDebts x = Check.made(four + "debt a to b 20;debt c to b 9;law 10;");
+        x.aim(3, 1);
+        x.stand(3, 0);
+        due("no coin", x.word(0, 1, 4), 0);
+        x.aim(0, 1);
+        x.stand(0, 2);
+        due("coin of another debt", x.word(0, 1, 1), 80);
+        check.due("the first", lying(x), "0 20");
+        due("coin but once", x.word(0, 1, 4), 80);
+        due("the other debt", x.word(2, 1, 1), 90);
+        // The same, with d earning for a, who is ahead of him by number: he is paid an HOUR later.
+        WaitingDebts y = Check.made(four + "debt d to b 20;debt c to b 9;law 10;");
+        y.aim(0, 1);
+        y.stand(0, 3);
+        y.aim(3, 1);
+        y.stand(3, 2);
+        due("no coin yet", y.word(3, 1, 1), 0);
+        due("coin of the HOUR ahead", y.word(3, 1, 2), 80);
     }
 }

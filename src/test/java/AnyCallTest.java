@@ -20,11 +20,14 @@ public final class AnyCallTest {
         Random chance = new Random(seed);
         WaitingDebts x = new WaitingDebts();
         long all = 0;
-        for (int i = 0; i < 511; i++) {
+        // An object is used for 512 calls at most; a text takes up to 83 of them.
+        for (int used = 0; used < 512 - 84; used++) {
             if (chance.nextInt(60) == 0) {
                 String text = new Texts(chance).town();
-                Check.tape(x, chance.nextInt(4) == 0 ? new Texts(chance).broken(text) : text);
+                text = chance.nextInt(4) == 0 ? new Texts(chance).broken(text) : text;
+                Check.tape(x, text);
                 all = all * 31 + x.town();
+                used += text.length() / 20 + 4;
             }
             all = all * 31 + call(x, chance);
         }

@@ -172,6 +172,9 @@ public final class CallEdgesTest {
         WaitingDebts w = new WaitingDebts();
         w.later(7);
         check.due("4: like an empty one at that TIME", Shown.firstUnlike(Shown.of(z), Shown.of(w)), Shown.NOTHING_UNLIKE);
+        WaitingDebts u = late(1999);
+        due("4: PEOPLE", Check.town(u, STREET), 3);
+        check.due("4: like a new one, however late it was", Shown.firstUnlike(Shown.of(u), Shown.of(Check.made(STREET))), Shown.NOTHING_UNLIKE);
         for (int box = 0; box < 3; box++) {
             WaitingDebts v = busy();
             v.image(box);
@@ -255,6 +258,19 @@ public final class CallEdgesTest {
         due("8: in all", x.sum(0, false), 19998);
         due("8: in all", x.sum(2, true), 19998);
         due("8: nothing", x.sum(2, false) + x.sum(0, true), 0);
+        StringBuilder text = new StringBuilder();
+        for (int p = 0; p < 6; p++) {
+            text.append("person ").append((char) ('a' + p)).append(" at 1 open 0 to 1;");
+        }
+        for (int o = 1; o < 6; o++) {
+            text.append("debt a to ").append((char) ('a' + o)).append(' ').append(1 << o).append(';');
+            text.append("debt ").append((char) ('a' + o)).append(" to a ").append(1 << 5 + o).append(';');
+        }
+        WaitingDebts y = Check.made(text + "debt f to b 1;debt f to e 3;");
+        due("8: the first one owes all others", y.sum(0, false), 2 + 4 + 8 + 16 + 32);
+        due("8: all others owe the first one", y.sum(0, true), 64 + 128 + 256 + 512 + 1024);
+        due("8: the last one owes all others", y.sum(5, false), 1024 + 4);
+        due("8: the last one is owed", y.sum(5, true), 32);
     }
 
     private void wetAndPays() {
@@ -690,6 +706,13 @@ public final class CallEdgesTest {
             int which = what;
             refused("37: about(" + what + ")", x -> x.about(which), want[which]);
         }
+        WaitingDebts y = Check.made("person a at 1 open 0 to 1;person b at 1 open 0 to 1;debt a to b 61;debt b to a 2;");
+        due("37: two debts", y.about(13), 2);
+        y.aim(0, 1);
+        y.hours(1);
+        due("37: a debt of 1 is one of more than 0", y.about(13) * 10 + y.owed(0, 1), 21);
+        y.hours(10);
+        due("37: a debt of 0 is not", y.about(13), 1);
         for (int what : new int[] {-1, -2, 14, 15, MIN, MAX}) {
             refused("37: about(" + what + ")", x -> x.about(what), -1);
         }

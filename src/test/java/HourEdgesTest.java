@@ -31,6 +31,7 @@ public final class HourEdgesTest {
         test.interestOfWhatIsOwed();
         test.interestByDateOfThatDay();
         test.whatIsNotToldIsZero();
+        test.longFormulas();
         test.intsThatWrap();
         test.byZero();
         test.oneOrZero();
@@ -487,10 +488,14 @@ public final class HourEdgesTest {
             x.stand(2, 0);
             x.hours(4);
             due("interest " + given[i] + " of two DAYS", x.owed(0, 1) - 500, ofInterest[i]);
-            WaitingDebts y = Check.made(street + "debt c to b 77;rain " + given[i] + ";");
+            WaitingDebts y = Check.made(street + "debt c to b 77;law 1;rain " + given[i] + ";");
             y.aim(2, 1);
             due("rain " + given[i] + " at 1, 1", y.wet(1, 1), ofRain[i]);
             due("rain " + given[i] + " at 0, 0", y.wet(0, 0), 0);
+            y.aim(0, 1);
+            y.stand(0, 2);
+            y.hours(1);
+            due("rain " + given[i] + " at 0, 0 behind an HOUR", y.wet(0, 0), 0);
             WaitingDebts z = Check.made(street + "debt c to b 77;rain 1;law " + given[i] + ";");
             z.hours(3);
             z.aim(0, 1);
@@ -503,11 +508,34 @@ public final class HourEdgesTest {
         }
     }
 
+    /** The longest formulas, and those whose parts stay open longest, come to what is told. */
+    private void longFormulas() {
+        String nots = "not ".repeat(7);
+        rainIs((nots + "1 or ").repeat(29) + nots + "0", 1);
+        rainIs((nots + "1 or ").repeat(29) + nots + "1", 0);
+        rainIs((nots + "0 and ").repeat(29) + nots + "0", 1);
+        rainIs((nots + "0 and ").repeat(29) + nots + "1", 0);
+        rainIs("1" + "+1".repeat(28) + "=29", 1);
+        rainIs("1" + "+1".repeat(28) + "=28", 0);
+        rainIs("9-(8-(7-(6-(5-(4-(3-(2)))))))=4", 1);
+        rainIs("9-(8-(7-(6-(5-(4-(3-(2)))))))=5", 0);
+        rainIs("2*(1+2*(1+2*(1+2*(1+2*(1+2*(1))))))=126", 1);
+        rainIs("2*(1+2*(1+2*(1+2*(1+2*(1+2*(1))))))=127", 0);
+        // A part of each sort is open at each level: what is behind it decides.
+        String open = "0 or 1 and 5<3+1*(";
+        rainIs(open.repeat(3) + "2" + ")".repeat(3), 0);
+        rainIs(open.repeat(3) + "3" + ")".repeat(3), 0);
+        rainIs("0 or 1 and 3<3+1*(0 or 1 and 2<2+1*(0 or 1 and 1<1+1*(0 or 1 and 2)))", 1);
+        rainIs("0 or 1 and 3<3+1*(0 or 1 and 2<2+1*(0 or 1 and 1<1+1*(0 or 1 and 0)))", 0);
+    }
+
+    private void rainIs(String e, int bit) {
+        due("rain " + e, Check.made("rain " + e + ";").wet(2, 3), bit);
+    }
+
     private void comesTo(String e, int bit) {
-        WaitingDebts x = Check.made("rain " + e + ";");
-        due("rain " + e, x.wet(2, 3), bit);
-        WaitingDebts y = Check.made("rain not (" + e + ");");
-        due("rain not " + e, y.wet(2, 3), 1 - bit);
+        rainIs(e, bit);
+        rainIs("not (" + e + ")", 1 - bit);
     }
 
     // In e ints, wrapping

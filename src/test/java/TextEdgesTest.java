@@ -20,6 +20,7 @@ public final class TextEdgesTest {
         test.noLetterBehindANumber();
         test.wordsAreNoNames();
         test.linesAndTheirParts();
+        test.oneTokenLeftOut();
         test.optionsInTheirOrder();
         test.formulas();
         test.dayOnceAheadOfAll();
@@ -35,6 +36,7 @@ public final class TextEdgesTest {
         test.unitsOfOneFormula();
         test.unitsInAll();
         test.withinOthers();
+        test.manyTowns();
         test.theFirstFault();
         test.theLeastFaultAtOnePlace();
         test.check.end();
@@ -250,6 +252,34 @@ public final class TextEdgesTest {
         good(AB + debt, 2);
     }
 
+    // A line without one of its TOKENS: the next one can't stand there.
+    private void oneTokenLeftOut() {
+        String[] lines = {"day 5 ;", "person a at 1 open 0 to 1 chairs 1 rest 1 price 1 coin 1 ;", "debt a to b 1 ;", "law 1 < 2 ;", "interest owed ;", "rain ( 1 ;"};
+        for (String line : lines) {
+            String ahead = line.startsWith("debt") ? AB : "";
+            String[] tokens = line.split(" ");
+            int at = 0;
+            for (int i = 0; i < tokens.length; i++) {
+                int behind = Math.min(line.length(), at + tokens[i].length() + 1);
+                String text = ahead + line.substring(0, at) + line.substring(behind);
+                if (!tokens[i].equals("(")) {
+                    bad(text, 2, ahead.length() + at);
+                }
+                at = behind;
+            }
+        }
+        good("rain 1 ;", 0);
+        String[] shut = {"day ;", "person ;", "person a ;", "person a at ;", "person a at 1 ;", "person a at 1 open ;", "person a at 1 open 0 ;",
+            "person a at 1 open 0 to ;", "person a at 1 open 0 to 1 chairs ;", "person a at 1 open 0 to 1 rest ;", "person a at 1 open 0 to 1 price ;",
+            "person a at 1 open 0 to 1 coin ;", "law ;", "law ( ;", "law ( owed ;", "law 1 + ;", "interest not ;", "rain 1 < ;", "rain 1 and ;", "rain 1 or ;"};
+        for (String line : shut) {
+            bad(line, 2, line.length() - 1);
+        }
+        for (String line : new String[] {"debt ;", "debt a ;", "debt a to ;", "debt a to b ;"}) {
+            bad(AB + line, 2, 52 + line.length() - 1);
+        }
+    }
+
     // [chairs N] [rest N] [price N] [coin N]: each told or not, none out of its row, none twice.
     private void optionsInTheirOrder() {
         String[] words = {"chairs", "rest", "price", "coin"};
@@ -451,6 +481,8 @@ public final class TextEdgesTest {
         check.due("NAMES of another TOWN are forgotten", Check.town(x, A + "debt a to b 1;"), -1);
         check.due("NAMES of another TOWN are forgotten", x.fault(0) * 100 + x.fault(1), 536);
         check.due("debts of another TOWN are forgotten", Check.town(x, AB + "debt a to b 5;") * 10 + x.owed(1, 0), 20);
+        Check.town(x, AB);
+        check.due("debts of any other TOWN are forgotten", x.about(13), 0);
     }
 
     // 1 .. 9999 MINUTES
@@ -537,6 +569,37 @@ public final class TextEdgesTest {
         good("law " + times(7, "not ") + "1 and " + times(7, "not ") + "1 or " + times(7, "not ") + "1;", 0);
         bad("law (1)+" + times(8, "(") + "1", 2, 15);
         bad("law not 1 or " + times(8, "not ") + "1", 2, 13 + 28);
+    }
+
+    /** However many TOWNS were told ahead, with FAULTS or without: each is as its own text tells it. */
+    private void manyTowns() {
+        String full = "day 24;" + people(6) + "debt a to b 1;debt b to c 2;law 1+wet;interest 2;rain 3;";
+        String empty = A + "person b at 1 open 0 to 1;debt a to b 100;";
+        WaitingDebts x = new WaitingDebts();
+        for (int i = 0; i < 4; i++) {
+            check.due("a full TOWN", Check.town(x, full) * 100 + x.about(1), 624);
+            check.due("its units", x.about(10) * 10 + x.about(11), 41);
+            check.due("its debts", x.about(13), 2);
+            check.due("its rain", x.wet(0, 0), 1);
+            if (i % 2 == 1) {
+                check.due("a FAULT", Check.town(x, full + "law"), -1);
+            }
+            check.due("a TOWN of little", Check.town(x, empty) * 100 + x.about(1), 210);
+            check.due("no units", x.about(10) + x.about(11), 0);
+            check.due("one debt", x.about(13), 1);
+            check.due("no rain", x.wet(0, 0), 0);
+            x.aim(0, 1);
+            check.due("no law", x.pays(0), 60);
+            x.hours(10);
+            check.due("no interest", x.owed(0, 1), 40);
+        }
+        StringBuilder debts = new StringBuilder(people(6));
+        for (int i = 0; i < 20; i++) {
+            debts.append("debt ").append((char) ('a' + i / 5)).append(" to ").append((char) ('a' + (i % 5 + i / 5 + 1) % 6)).append(" 7;");
+        }
+        for (int i = 0; i < 3; i++) {
+            check.due("20 debts, again and again", Check.town(x, debts.toString()), 6);
+        }
     }
 
     // FAULTS, the first by its place (bytes from 0; the end: the text's length)

@@ -4,6 +4,7 @@ import java.util.Random;
 final class Texts {
     private static final String[] GIVENS = {"owed", "date", "hour", "wet", "seat", "met", "proxy"};
     private static final String[] NAMES = {"a", "b", "cat", "doge", "eve", "fabricio", "gil"};
+    private static final int[] EDGES = {0, 1, 2, 3, 5, 9, 10, 11, 20, 21, 23, 24, 25, 99, 100, 101, 999, 1000, 1001, 9999};
     private static final String[] BITS = {";", "(", ")", "<", ">", "=", "+", "-", "*", "/", "%", " ", "\n", "$", "A", "\u00e9", "\u0000",
         "day 5;", "person", "person zed at 3 open 0 to 1;", "a", "b", "at", "open", "to", "chairs", "rest", "price", "coin", "debt", "debt a to b 5;",
         "law", "law 1;", "interest", "rain", "rain 0;", "or", "and", "not", "not not", "owed", "wet", "0", "1", "99", "9999", "12345", "1a",
@@ -114,6 +115,36 @@ final class Texts {
     }
 
     String broken(String text) {
+        return oneIn(2) ? brokenByTokens(text) : brokenByBytes(text);
+    }
+
+    /** Lines told again or in another row, NAMES and numbers exchanged for others. */
+    private String brokenByTokens(String text) {
+        String[] lines = text.split("(?<=;)");
+        int line = chance.nextInt(lines.length);
+        int other = chance.nextInt(lines.length);
+        if (oneIn(3)) {
+            return text + lines[line];
+        }
+        if (oneIn(3)) {
+            String kept = lines[line];
+            lines[line] = lines[other];
+            lines[other] = kept;
+            return String.join("", lines);
+        }
+        String[] tokens = lines[line].split("(?<=[a-z])(?![a-z])|(?<=[0-9])(?![0-9])|(?<=[^a-z0-9])");
+        for (int i = 0; i < tokens.length; i++) {
+            if (tokens[i].matches("[0-9]+") && oneIn(3)) {
+                tokens[i] = String.valueOf(EDGES[chance.nextInt(EDGES.length)]);
+            } else if (tokens[i].matches(String.join("|", NAMES)) && oneIn(2)) {
+                tokens[i] = NAMES[chance.nextInt(NAMES.length)];
+            }
+        }
+        lines[line] = String.join("", tokens);
+        return String.join("", lines);
+    }
+
+    private String brokenByBytes(String text) {
         StringBuilder all = new StringBuilder(text);
         for (int i = from(1, 2); i > 0; i--) {
             int at = chance.nextInt(all.length() + 1);
