@@ -493,9 +493,11 @@ public final class CallEdgesTest {
         WaitingDebts x = Check.made(STREET);
         x.plan(0);
         due("24: what lies there stays behind rings", x.rings() * 10 + x.about(12), 22);
+        due("24: what lies there stays behind rings", x.lies(0) * 10 + x.lies(1), 21);
         x.clear();
         due("24: none", x.rings(), 0);
         due("24: what lies there stays behind clear", x.about(12), 2);
+        due("24: what lies there stays behind clear", x.lies(0) * 10 + x.lies(1), 21);
         due("25: 0 if there is none", x.ring(), 0);
         due("25: nothing lies there then", x.about(12), 0);
         due("25: nothing lies there then", x.lies(0), -1000000);
