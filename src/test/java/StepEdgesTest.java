@@ -250,6 +250,8 @@ public final class StepEdgesTest {
         due("c's ways to a and b never part", x.ask(2, 0, 0) * 10 + x.ask(2, 1, 0), 2);
         WaitingDebts y = Check.made("day 9;person a at 4 open 0 to 6;person b at 8 open 0 to 6;person c at 0 open 0 to 6 rest 2;");
         due("they do on a longer DAY", y.ask(2, 0, 0) * 10 + y.ask(2, 1, 0), 41);
+        WaitingDebts z = Check.made("day 10;person a at 4 open 0 to 6;person b at 8 open 0 to 6;person c at 0 open 0 to 6 rest 5;");
+        due("they part in HOUR 4, and all are at home in HOUR 9", z.ask(2, 0, 0) * 10 + z.ask(2, 1, 0), 41);
     }
 
     // the most AIMS that FIT (none is one, too) and are left, wherever he was
