@@ -577,7 +577,8 @@ public final class WaitingDebts {
             if (start >= textLength) {
                 kind = END;
             } else if (isLetter(start)) {
-                readWord();
+                readLetters();
+                kind = end - start > MAX_LETTERS ? BAD : kindOfWord();
             } else if (isDigit(start)) {
                 readNumber();
             } else {
@@ -598,11 +599,10 @@ public final class WaitingDebts {
             return true;
         }
 
-        private void readWord() {
+        private void readLetters() {
             for (int i = start; i < textLength && isLetter(i); i++) {
                 end = i + 1;
             }
-            kind = end - start > MAX_LETTERS ? BAD : kindOfWord();
         }
 
         private void readNumber() {
